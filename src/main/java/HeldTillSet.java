@@ -130,7 +130,7 @@ public final class HeldTillSet {
         if (kn < 0 || kn / 10 >= bench.size || kn % 10 > MOST_JOINTS) {
             return BAD;
         }
-        return glueLaw.minutes(kn / 10, kn % 10, bench.numberOf(Bench.GLUE));
+        return glueLaw.minutes(kn / 10, kn % 10, bench.standing(Bench.GLUE));
     }
 
     // ---- orders in thought
@@ -189,8 +189,8 @@ public final class HeldTillSet {
         if (m < 0 || m > 999 || !isZeroOrOne(what)) {
             return BAD;
         }
-        int men = bench.numberOf(Bench.MEN);
-        int clamps = bench.numberOf(Bench.CLAMPS);
+        int men = bench.standing(Bench.MEN);
+        int clamps = bench.standing(Bench.CLAMPS);
         int most = what == 0 ? Bench.MOST_CLAMPS : Bench.MOST_MEN;
         shop.open();
         search.allFree();
@@ -234,7 +234,7 @@ public final class HeldTillSet {
         if (before == VOID) {
             return VOID;
         }
-        shop.staff(bench.numberOf(Bench.MEN) + what, bench.numberOf(Bench.CLAMPS) + 1 - what);
+        shop.staff(bench.standing(Bench.MEN) + what, bench.standing(Bench.CLAMPS) + 1 - what);
         int then = soonestDone();
         return then == VOID ? VOID : before - then;
     }
@@ -354,7 +354,7 @@ public final class HeldTillSet {
         if (lack != 0) {
             return lack;
         }
-        int clamps = bench.numberOf(Bench.CLAMPS);
+        int clamps = bench.standing(Bench.CLAMPS);
         shop.open();
         for (int men = 0; men <= Bench.MOST_MEN; men++) {
             shop.staff(men, clamps);
@@ -688,7 +688,7 @@ public final class HeldTillSet {
             }
             z = z * 1103515245 + 12345;
             int minutes = bench.numberOf(plan[p], Bench.FITS);
-            if ((z >>> 8) % 12 < bench.numberOf(Bench.SLIPS)) {
+            if ((z >>> 8) % 12 < bench.standing(Bench.SLIPS)) {
                 minutes *= 2;
             }
             if (!work.fasten(plan[p], start, minutes)) {
@@ -732,12 +732,12 @@ public final class HeldTillSet {
         }
 
         int numberOf(int joint, int what) {
-            int place = placeOf(joint, what);
-            return place < 0 ? 0 : numbers[place];
+            int place = joint * EACH + what;
+            return place >= 0 && place < MOST_JOINTS * EACH ? numbers[place] : 0;
         }
 
-        int numberOf(int what) {
-            return numberOf(0, what);
+        int standing(int what) {
+            return what >= MEN && what <= SLIPS ? numbers[MOST_JOINTS * EACH + what - MEN] : 0;
         }
 
         /** Only while there is room for one more. */
@@ -767,7 +767,7 @@ public final class HeldTillSet {
                 }
                 hands += numberOf(j, HANDS);
             }
-            return hands <= handsWith(numberOf(MEN));
+            return hands <= handsWith(standing(MEN));
         }
     }
 
@@ -968,7 +968,7 @@ public final class HeldTillSet {
 
         /** How many minutes a joint takes to set, if so many are fitted by then. */
         int minutes(int joint, int fitted, int glue) {
-            int warm = bench.numberOf(Bench.WARM);
+            int warm = bench.standing(Bench.WARM);
             if (codeSize == 0) {
                 return Math.max(1, 30 - glue - warm / 2);
             }
@@ -1050,14 +1050,14 @@ public final class HeldTillSet {
 
         /** As the bench is now. */
         void open() {
-            int glue = bench.numberOf(Bench.GLUE);
+            int glue = bench.standing(Bench.GLUE);
             for (int j = 0; j < bench.size; j++) {
                 for (int fitted = 0; fitted < bench.size; fitted++) {
                     learn(j, fitted, glue);
                 }
             }
             neverSets = false;
-            staff(bench.numberOf(Bench.MEN), bench.numberOf(Bench.CLAMPS));
+            staff(bench.standing(Bench.MEN), bench.standing(Bench.CLAMPS));
         }
 
         void staff(int menNow, int clampsNow) {
@@ -1349,15 +1349,22 @@ public final class HeldTillSet {
             orders = 0;
             deepest = 0;
             work.clear(0);
-            int unfitted = 0;
-            for (int j = 0; j < bench.size; j++) {
-                unfitted += bench.numberOf(j, Bench.FITS);
-            }
-            seek(0, unfitted);
+            seek(0, leastMinutes());
         }
 
-        /** The unfitted joints take at least their fitting: what can't be done ahead of the limit is left early. */
-        private void seek(int depth, int unfitted) {
+        /** What all joints take at least: their fitting, and the quickest setting of a last one. */
+        private int leastMinutes() {
+            int fitting = 0;
+            int setting = NEVER;
+            for (int j = 0; j < bench.size; j++) {
+                fitting += bench.numberOf(j, Bench.FITS);
+                setting = Math.min(setting, work.shop.minutesOf(j, bench.size - 1));
+            }
+            return fitting + setting;
+        }
+
+        /** With what is left at least, so that what can't be done ahead of the limit is given up early. */
+        private void seek(int depth, int atLeast) {
             deepest = Math.max(deepest, depth);
             if (depth >= bench.size) {
                 come();
@@ -1367,7 +1374,7 @@ public final class HeldTillSet {
                 if (work.hasFitted(j) || !work.join(j)) {
                     continue;
                 }
-                int left = unfitted - bench.numberOf(j, Bench.FITS);
+                int left = atLeast - bench.numberOf(j, Bench.FITS);
                 if (isSo(j) && work.latest() < limit && work.now + left < limit) {
                     seek(depth + 1, left);
                 }
