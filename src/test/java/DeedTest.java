@@ -259,6 +259,30 @@ public final class DeedTest {
     due.is("not yet", x.test(0), 0);
     x.stay(1);
     due.is("in minute 12", x.test(0), 1);
+    HeldTillSet y = three();
+    y.mend(0, 7, 1);
+    y.mend(0, 6, 1);
+    y.mend(1, 2, 2);
+    y.mend(2, 1, 2);
+    y.fit(0);
+    y.fit(1);
+    y.image();
+    y.chair();
+    y.fit(1);
+    y.fit(0);
+    y.fit(2);
+    y.back();
+    y.mend(2, 1, 3);
+    due.is("two of four hands hold joint 1 till minute 15", y.fit(2), 16);
+    y.back();
+    y.mend(2, 1, 0);
+    y.mend(2, 2, 2);
+    due.is("the clamp holds joint 0: two hands are left", y.fit(2), 6);
+    y.chair();
+    y.fit(1);
+    y.back();
+    y.mend(0, 6, 0);
+    due.is("the clamp is not free, nor is a hand", y.fit(2), NOT);
   }
 
   private static void undo() {
@@ -315,6 +339,27 @@ public final class DeedTest {
     }
     due.is("GLUE", x.of(0, 8), 55);
     due.is("no more", x.redo(), STATE);
+    HeldTillSet y = three();
+    for (int i = 0; i < 43; i++) {
+      y.mend(i % 3, i % 2 == 0 ? 4 : 5, i < 6 ? 8 : y.of(i % 3, i % 2 == 0 ? 4 : 5) + 8);
+    }
+    int[] before = new int[6];
+    for (int i = 0; i < 6; i++) {
+      before[i] = y.of(i / 2, 4 + i % 2);
+    }
+    for (int i = 0; i < 40; i++) {
+      y.undo();
+    }
+    int[] kept = {8, 0, 0, 8, 8, 0};
+    for (int i = 0; i < 6; i++) {
+      due.is("only the first three stay, number " + i, y.of(i / 2, 4 + i % 2), kept[i]);
+    }
+    for (int i = 0; i < 40; i++) {
+      y.redo();
+    }
+    for (int i = 0; i < 6; i++) {
+      due.is("done again, number " + i, y.of(i / 2, 4 + i % 2), before[i]);
+    }
   }
 
   private static void redo() {

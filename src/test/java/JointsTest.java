@@ -99,6 +99,11 @@ public final class JointsTest {
       due.is("a row of sort " + sort, x.joints(2, 0, 1), -12);
     }
     due.is("bad ahead of -12", x.joints(2, 0, 0), BAD);
+    HeldTillSet z = new HeldTillSet();
+    Due.bytes(z, 0, 7, 1, 2, 8, 3, 0);
+    due.is("up to the row's very end", z.joints(0, 0, 3), 2);
+    due.is("the last three", z.joints(0, 3, 1), 1);
+    due.is("a three that lacks one", z.joints(0, 4, 1), 0);
     HeldTillSet y = new HeldTillSet();
     Due.bytes(y, 0, 0, 1, 1, 1, -1, 0, 1, 4, 0, 1, 1, -1, 10, 1, 1);
     for (int i = 0; i < 15; i += 3) {

@@ -229,6 +229,23 @@ public final class OrdersTest {
     due.is("men, with clamps", x.need(12, 1), 0);
     due.is("CLAMPS stay", x.of(0, 7), 6);
     due.is("MEN stay", x.of(0, 6), 0);
+    HeldTillSet y = new HeldTillSet();
+    for (int j = 0; j < 7; j++) {
+      y.joint(1, 0);
+      y.mend(j, 2, 2);
+    }
+    Due.law(y, "50");
+    due.is("six clamps and two hands hold all seven", y.need(57, 0), 6);
+    y.mend(0, 6, 1);
+    due.is("five clamps and four hands", y.need(57, 0), 5);
+    y.mend(6, 2, 0);
+    y.mend(6, 1, 1);
+    y.mend(0, 7, 2);
+    due.is("eight hands and two clamps hold six", y.need(57, 1), 3);
+    y.mend(6, 4, 63);
+    due.is("a fourth brother would be needed behind them", y.need(57, 1), NOT);
+    y.mend(0, 7, 3);
+    due.is("with one clamp more a hand is free", y.need(57, 1), 3);
     due.is("m -1", x.need(-1, 0), BAD);
     due.is("m 1000", x.need(1000, 0), BAD);
     due.is("what 2", x.need(5, 2), BAD);
@@ -261,6 +278,12 @@ public final class OrdersTest {
     x.mend(0, 1, 0);
     due.is("by a law that is not even: greatest", x.glue(0, 0), 97);
     due.is("by a law that is not even: least", x.glue(0, 1), 7);
+    Due.law(x, "g<99?50;0");
+    due.is("99 alone", x.glue(0, 1), 99);
+    due.is("99 alone", x.glue(0, 0), 99);
+    Due.law(x, "g>0?50;0");
+    due.is("0 alone", x.glue(0, 1), 0);
+    due.is("0 alone", x.glue(0, 0), 0);
   }
 
   private static void worth() {
