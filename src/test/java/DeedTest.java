@@ -19,17 +19,9 @@ public final class DeedTest {
     due.end();
   }
 
-  private static HeldTillSet three() {
-    HeldTillSet x = new HeldTillSet();
-    x.joint(2, 2);
-    x.joint(3, 1);
-    x.joint(1, 1);
-    return x;
-  }
-
   private static void fit() {
     due.promise(26);
-    HeldTillSet x = three();
+    HeldTillSet x = Due.three();
     due.is("joint 3", x.fit(3), BAD);
     due.is("joint -1", x.fit(-1), BAD);
     due.is("the least int", x.fit(Integer.MIN_VALUE), BAD);
@@ -39,7 +31,7 @@ public final class DeedTest {
     due.is("fit(1)", x.fit(1), 5);
     due.is("waits for a hand", x.fit(2), 13);
     due.is("fitted", x.of(0, 12), 7);
-    x = three();
+    x = Due.three();
     x.mend(2, 4, 2);
     due.is("NEEDS", x.fit(2), NOT);
     due.is("NOW stays", x.of(0, 11), 0);
@@ -50,14 +42,14 @@ public final class DeedTest {
     due.is("more than all hands", x.fit(0), NOT);
     x.mend(0, 6, 1);
     due.is("with a brother, once hands are free", x.fit(0), 15);
-    x = three();
+    x = Due.three();
     x.mend(2, 5, 1);
     x.fit(0);
     x.fit(1);
     due.is("sprung: fast by the minute in which it is begun", x.fit(2), NOT);
     due.is("NOW stays", x.of(0, 11), 5);
     due.is("fitted already is ahead of not going in", x.fit(1), STATE);
-    x = three();
+    x = Due.three();
     x.mend(2, 5, 1);
     x.fit(0);
     due.is("soft yet", x.fit(2), 3);
@@ -78,7 +70,7 @@ public final class DeedTest {
 
   private static void fitAsAnOrderDoes() {
     due.promise(26);
-    HeldTillSet x = three();
+    HeldTillSet x = Due.three();
     x.mend(0, 7, 1);
     Due.law(x, "n*3+f");
     Due.bytes(x, 0, 2, 0, 1);
@@ -96,7 +88,7 @@ public final class DeedTest {
   /** Numbers mended later change nothing of what is fitted already. */
   private static void heldAsItWas() {
     due.promise(26);
-    HeldTillSet x = three();
+    HeldTillSet x = Due.three();
     x.fit(0);
     x.mend(0, 2, 0);
     x.mend(0, 8, 99);
@@ -107,7 +99,7 @@ public final class DeedTest {
     due.is("the first is soft", x.test(0), 0);
     x.stay(5);
     due.is("set in minute 12", x.test(0), 1);
-    HeldTillSet y = three();
+    HeldTillSet y = Due.three();
     y.mend(0, 7, 1);
     y.fit(0);
     y.mend(0, 7, 0);
@@ -117,7 +109,7 @@ public final class DeedTest {
 
   private static void stay() {
     due.promise(27);
-    HeldTillSet x = three();
+    HeldTillSet x = Due.three();
     due.is("0", x.stay(0), BAD);
     due.is("1000", x.stay(1000), BAD);
     due.is("-1", x.stay(-1), BAD);
@@ -136,7 +128,7 @@ public final class DeedTest {
 
   private static void test() {
     due.promise(28);
-    HeldTillSet x = three();
+    HeldTillSet x = Due.three();
     due.is("joint 3", x.test(3), BAD);
     due.is("joint -1", x.test(-1), BAD);
     due.is("not fitted", x.test(0), STATE);
@@ -154,7 +146,7 @@ public final class DeedTest {
 
   private static void chair() {
     due.promise(29);
-    HeldTillSet x = three();
+    HeldTillSet x = Due.three();
     due.is("none", x.chair(), 0);
     x.fit(0);
     x.fit(1);
@@ -174,7 +166,7 @@ public final class DeedTest {
 
   private static void led() {
     due.promise(30);
-    HeldTillSet x = three();
+    HeldTillSet x = Due.three();
     x.mend(2, 4, 2);
     x.fit(2);
     x.fit(2);
@@ -199,7 +191,7 @@ public final class DeedTest {
 
   private static void image() {
     due.promise(31);
-    HeldTillSet x = three();
+    HeldTillSet x = Due.three();
     x.fit(0);
     x.stay(4);
     x.chair();
@@ -230,7 +222,7 @@ public final class DeedTest {
     x.chair();
     due.is("back", x.back(), 110);
     due.is("fitted", x.of(0, 12), 6);
-    HeldTillSet y = three();
+    HeldTillSet y = Due.three();
     due.is("none", y.back(), STATE);
     y.fit(0);
     y.image();
@@ -245,7 +237,7 @@ public final class DeedTest {
 
   private static void imageKeepsHolding() {
     due.promise(32);
-    HeldTillSet x = three();
+    HeldTillSet x = Due.three();
     x.mend(0, 7, 1);
     x.mend(0, 2, 2);
     x.fit(0);
@@ -259,7 +251,7 @@ public final class DeedTest {
     due.is("not yet", x.test(0), 0);
     x.stay(1);
     due.is("in minute 12", x.test(0), 1);
-    HeldTillSet y = three();
+    HeldTillSet y = Due.three();
     y.mend(0, 7, 1);
     y.mend(0, 6, 1);
     y.mend(1, 2, 2);
@@ -287,7 +279,7 @@ public final class DeedTest {
 
   private static void undo() {
     due.promise(33);
-    HeldTillSet x = three();
+    HeldTillSet x = Due.three();
     due.is("none", x.undo(), STATE);
     x.mend(0, 0, 7);
     x.mend(0, 0, 7);
@@ -305,7 +297,7 @@ public final class DeedTest {
     due.is("FITS", x.of(0, 0), 2);
     due.is("none", x.undo(), STATE);
     due.is("deeds are none", x.of(0, 12), 1);
-    HeldTillSet y = three();
+    HeldTillSet y = Due.three();
     int[] values = {3, 1, 0, 0, 4, 4, 2, 3, 4, 5, 6};
     for (int what = 0; what <= 10; what++) {
       y.mend(0, what, values[what]);
@@ -324,7 +316,7 @@ public final class DeedTest {
 
   private static void fortyAreKept() {
     due.promise(33);
-    HeldTillSet x = three();
+    HeldTillSet x = Due.three();
     for (int i = 1; i <= 45; i++) {
       x.mend(0, 8, 10 + i);
     }
@@ -339,7 +331,7 @@ public final class DeedTest {
     }
     due.is("GLUE", x.of(0, 8), 55);
     due.is("no more", x.redo(), STATE);
-    HeldTillSet y = three();
+    HeldTillSet y = Due.three();
     for (int i = 0; i < 43; i++) {
       y.mend(i % 3, i % 2 == 0 ? 4 : 5, i < 6 ? 8 : y.of(i % 3, i % 2 == 0 ? 4 : 5) + 8);
     }
@@ -364,7 +356,7 @@ public final class DeedTest {
 
   private static void redo() {
     due.promise(34);
-    HeldTillSet x = three();
+    HeldTillSet x = Due.three();
     due.is("none", x.redo(), STATE);
     x.mend(0, 6, 1);
     x.mend(0, 6, 2);

@@ -14,19 +14,10 @@ public final class DripsTest {
     due.end();
   }
 
-  private static HeldTillSet three() {
-    HeldTillSet x = new HeldTillSet();
-    x.joint(2, 2);
-    x.joint(3, 1);
-    x.joint(1, 1);
-    Due.bytes(x, 0, 0, 1, 2);
-    return x;
-  }
-
   private static void judgeAndWhoRefuse() {
     for (int promise = 21; promise <= 23; promise += 2) {
       due.promise(promise);
-      HeldTillSet x = three();
+      HeldTillSet x = Due.three();
       x.body(0);
       for (int od : new int[] {-1, 6, 9, 60, 66, 100, Integer.MIN_VALUE, Integer.MAX_VALUE}) {
         due.is("od " + od, ask(x, promise, od), BAD);
@@ -55,7 +46,7 @@ public final class DripsTest {
 
   private static void judge() {
     due.promise(21);
-    HeldTillSet x = three();
+    HeldTillSet x = Due.three();
     long[][] drips = {{}, {0, 12, 1, 15, 2, 23}, {2, 23, 0, 12}, {0, 12, 1, 14, 2, 22}, {0, 11}, {3, 12}, {-1, 0}, {0, 12, 5},
       {0}, {0, 12, 1}, {0, 12, 0, 12, 0, 13}, {0, -12}, {7, -2}, {-1, -2}};
     int[] want = {NOT, NOT, NOT, 1, 0, 0, 0, 1, 0, 1, 2, 0, 0, 0};
@@ -150,7 +141,7 @@ public final class DripsTest {
 
   private static void byHand() {
     due.promise(24);
-    HeldTillSet x = three();
+    HeldTillSet x = Due.three();
     due.is("all by hand", x.byHand(0, 0), 7);
     due.is("no clamps", x.byHand(0, 1), 0);
     x.mend(0, 7, 1);

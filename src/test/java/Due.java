@@ -57,4 +57,14 @@ final class Due {
   static void shorts(HeldTillSet x, int shelf, long... values) {
     row(x, shelf, 1, values);
   }
+
+  /** Joints of 2, 3 and 1 minutes that take 2, 1 and 1 hands, each set in 10 minutes; their order on shelf 0. */
+  static HeldTillSet three() {
+    HeldTillSet x = new HeldTillSet();
+    x.joint(2, 2);
+    x.joint(3, 1);
+    x.joint(1, 1);
+    bytes(x, 0, 0, 1, 2);
+    return x;
+  }
 }

@@ -21,16 +21,6 @@ public final class OrdersTest {
     due.end();
   }
 
-  /** Joints of 2, 3 and 1 minutes that take 2, 1 and 1 hands; each sets in 10 minutes. */
-  private static HeldTillSet three() {
-    HeldTillSet x = new HeldTillSet();
-    x.joint(2, 2);
-    x.joint(3, 1);
-    x.joint(1, 1);
-    Due.bytes(x, 0, 0, 1, 2);
-    return x;
-  }
-
   /** Joints that take no hands and need not be held. */
   private static HeldTillSet loose(int... fits) {
     HeldTillSet x = new HeldTillSet();
@@ -57,7 +47,7 @@ public final class OrdersTest {
   private static void refusals() {
     for (int which : new int[] {9, 10, 14, 16, 19, 20, 24, 25}) {
       due.promise(which);
-      HeldTillSet x = three();
+      HeldTillSet x = Due.three();
       x.body(0);
       due.is("shelf -1", call(x, which, -1, 0), BAD);
       due.is("shelf 6", call(x, which, 6, 0), BAD);
@@ -81,7 +71,7 @@ public final class OrdersTest {
 
   private static void order() {
     due.promise(9);
-    HeldTillSet x = three();
+    HeldTillSet x = Due.three();
     int[][] want = {{0, 2, 12}, {2, 5, 15}, {12, 13, 23}};
     for (int k = 0; k < 3; k++) {
       for (int what = 0; what < 3; what++) {
@@ -104,7 +94,7 @@ public final class OrdersTest {
 
   private static void done() {
     due.promise(10);
-    HeldTillSet x = three();
+    HeldTillSet x = Due.three();
     due.is("how many", x.done(0, 0), 3);
     due.is("DONE", x.done(0, 1), 23);
     long[][] rows = {{0, 1, 0, 2}, {1, 7, 0}, {-1, 0}, {3, 0}, {1, 1}, {}, {2, 1, 0}, {0, 1, 2, 3, 4}, {1, 127}, {-128}};
@@ -400,7 +390,7 @@ public final class OrdersTest {
 
   private static void wrong() {
     due.promise(19);
-    HeldTillSet x = three();
+    HeldTillSet x = Due.three();
     int[] ki = {0, 1, 11, 12, 22, 2, 3, 13, 33, 99, 10, 21, 100, -1, Integer.MIN_VALUE, Integer.MAX_VALUE};
     int[] want = {27, 32, 23, 31, 26, 42, NOT, NOT, NOT, NOT, BAD, BAD, BAD, BAD, BAD, BAD};
     for (int i = 0; i < ki.length; i++) {
@@ -419,7 +409,7 @@ public final class OrdersTest {
 
   private static void round() {
     due.promise(20);
-    HeldTillSet x = three();
+    HeldTillSet x = Due.three();
     due.is("one", x.round(0, 1), 23);
     due.is("two", x.round(0, 2), 46);
     due.is("five", x.round(0, 5), 115);
