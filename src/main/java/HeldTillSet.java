@@ -755,14 +755,14 @@ public final class HeldTillSet {
             return OWN_HANDS + 2 * men;
         }
 
-        /** Whether all joints of a set of joints that are there can be begun at once. */
+        /** Whether all joints of a set can be begun in minute 0, in which nothing is fitted that one could need. */
         boolean goTogether(int set) {
             int hands = 0;
             for (int j = 0; j < size; j++) {
                 if ((set >> j & 1) == 0) {
                     continue;
                 }
-                if ((numberOf(j, NEEDS) & set) != 0) {
+                if (numberOf(j, NEEDS) != 0) {
                     return false;
                 }
                 hands += numberOf(j, HANDS);

@@ -516,7 +516,7 @@ public final class ModelTest {
       for (int j = 0; j < m.size; j++) {
         if ((set >> j & 1) == 1) {
           hands += m.of[j][1];
-          all &= (m.of[j][4] & set) == 0;
+          all &= m.of[j][4] == 0;
         }
       }
       all &= hands <= 2 + 2 * m.men;

@@ -378,10 +378,25 @@ public final class OrdersTest {
     due.is("the greatest", x.atOnce(-1), 11);
     x.mend(1, 4, 1);
     due.is("one needs the other", x.atOnce(3), 0);
-    due.is("without the other", x.atOnce(2), 1);
+    due.is("without the other", x.atOnce(2), 0);
+    due.is("what is needed alone", x.atOnce(1), 1);
     due.is("the least bits", x.atOnce(-1), 9);
     x.mend(0, 6, 3);
     due.is("more hands", x.atOnce(-1), 13);
+    x.fit(0);
+    due.is("fitted in deed, not in minute 0", x.atOnce(2), 0);
+    x.mend(1, 4, 64);
+    due.is("needs one that never came", x.atOnce(2), 0);
+    x.mend(1, 4, 0);
+    due.is("needs none again", x.atOnce(2), 1);
+    due.is("all", x.atOnce(-1), 15);
+    x.mend(1, 5, 13);
+    due.is("sprung, but nothing has set", x.atOnce(15), 1);
+    for (int j = 0; j < 4; j++) {
+      x.mend(j, 4, j == 0 ? 2 : 1);
+    }
+    due.is("each needs one", x.atOnce(-1), 0);
+    due.is("none", x.atOnce(0), 1);
     due.is("16", x.atOnce(16), BAD);
     due.is("-2", x.atOnce(-2), BAD);
     due.is("the greatest int", x.atOnce(Integer.MAX_VALUE), BAD);
