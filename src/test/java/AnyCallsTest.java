@@ -32,40 +32,26 @@ public final class AnyCallsTest {
   /** Refusals of all calls but fit(), whose refusals are counted, and act(), which clears the trace. */
   private static void refused(int run) {
     Random random = new Random(run);
-    HeldTillSet x = new HeldTillSet();
-    for (int i = 0; i < 200; i++) {
+    int calls = random.nextInt(120);
+    for (int i = 0; i < 60; i++) {
       int which = random.nextInt(46);
-      long before = digest(x);
-      long answer = call(x, which, random);
+      long seed = random.nextLong();
+      HeldTillSet x = played(run, calls);
+      long answer = call(x, which, new Random(seed));
       boolean refusal = answer < 0 && answer >= -14 && which != 25 && which != 35;
       if (refusal) {
-        due.is("run " + run + ", refused call " + which, digest(x), before);
+        Told.alike(due, "run " + run + ", refused call " + which, Told.of(x), Told.of(played(run, calls)));
       }
     }
   }
 
-  private static long digest(HeldTillSet x) {
-    long sum = 7;
-    for (int j = 0; j < 7; j++) {
-      for (int what = 0; what <= 12; what++) {
-        sum = sum * 31 + x.of(j, what);
-      }
-      sum = sum * 31 + x.test(j);
+  private static HeldTillSet played(int run, int calls) {
+    Random random = new Random(run);
+    HeldTillSet x = new HeldTillSet();
+    for (int i = 0; i < calls; i++) {
+      call(x, random.nextInt(46), random);
     }
-    for (int i = 0; i < 24; i++) {
-      sum = sum * 31 + x.trace(i);
-    }
-    for (int what = 0; what < 5; what++) {
-      sum = sum * 31 + x.count(what);
-      sum = sum * 31 + x.led(what);
-    }
-    for (int shelf = 0; shelf < 6; shelf++) {
-      sum = sum * 31 + x.taken(shelf, 0);
-      for (int i = 0; i < 60; i++) {
-        sum = sum * 31 + x.element(shelf, i);
-      }
-    }
-    return sum;
+    return x;
   }
 
   private static long call(HeldTillSet x, int which, Random r) {

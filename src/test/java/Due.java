@@ -2,6 +2,7 @@
 final class Due {
   private final String test;
   private int promise;
+  private String sentence = "";
   private int asked;
   private int wrong;
 
@@ -11,6 +12,12 @@ final class Due {
 
   void promise(int number) {
     promise = number;
+    sentence = "";
+  }
+
+  /** The words of the document that the answers behind it are about. */
+  void says(String words) {
+    sentence = " (" + words + ")";
   }
 
   void is(String call, long got, long want) {
@@ -18,7 +25,7 @@ final class Due {
     if (got != want) {
       wrong++;
       if (wrong <= 40) {
-        System.out.println(test + ", promise " + promise + ": " + call + " answered " + got + ", due is " + want);
+        System.out.println(test + ", promise " + promise + sentence + ": " + call + " answered " + got + ", due is " + want);
       }
     }
   }
