@@ -5,6 +5,7 @@ public final class EdgesJointsTest {
   private static final Due due = new Due("EdgesJointsTest");
 
   public static void main(String[] args) {
+    answers();
     nothingAtFirst();
     jointsAsTheyCome();
     fitsAndHandsOfAJoint();
@@ -43,6 +44,16 @@ public final class EdgesJointsTest {
       x.joint(1, 1);
     }
     return x;
+  }
+
+  private static void answers() {
+    due.promise(1);
+    due.says("Answers: BAD (-1), NOT (-2), FULL (-3), STATE (-5); VOID is -2000000000");
+    due.is("BAD", HeldTillSet.BAD, -1);
+    due.is("NOT", HeldTillSet.NOT, -2);
+    due.is("FULL", HeldTillSet.FULL, -3);
+    due.is("STATE", HeldTillSet.STATE, -5);
+    due.is("VOID", HeldTillSet.VOID, -2000000000);
   }
 
   private static void nothingAtFirst() {

@@ -37,6 +37,8 @@ public final class RefusalsTest {
     taken();
     whatIsLed();
     thoughtChangesNothing();
+    objectsApart();
+    theLastCall();
     due.end();
   }
 
@@ -580,5 +582,28 @@ public final class RefusalsTest {
       due.is("thought " + i + " again", calls[i].on(x), first);
       Told.alike(due, "thought " + i, Told.of(x), Told.of(used()));
     }
+  }
+
+  private static void objectsApart() {
+    due.promise(1);
+    due.says("All memory is the class's own");
+    HeldTillSet first = bare();
+    HeldTillSet second = used();
+    HeldTillSet third = full();
+    Told.alike(due, "others were used since", Told.of(first), Told.of(bare()));
+    Told.alike(due, "another was filled since", Told.of(second), Told.of(used()));
+    Told.alike(due, "two were asked since", Told.of(third), Told.of(full()));
+  }
+
+  private static void theLastCall() {
+    due.promise(1);
+    due.says("An object is used for at most 512 calls");
+    HeldTillSet x = new HeldTillSet();
+    for (int i = 1; i <= 509; i++) {
+      due.is("call " + i, x.mend(0, 8, i % 2), i == 1 ? 10 : 1 - i % 2);
+    }
+    due.is("call 510", x.joint(2, 2), 0);
+    due.is("call 511", x.fit(0), 2);
+    due.is("call 512", x.led(4), 2);
   }
 }
