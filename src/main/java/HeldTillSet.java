@@ -49,9 +49,6 @@ public final class HeldTillSet {
         if (!bench.mayBe(0, Bench.FITS, fits) || !bench.mayBe(0, Bench.HANDS, hands)) {
             return BAD;
         }
-        if (bench.size >= MOST_JOINTS) {
-            return FULL;
-        }
         return bench.add(fits, hands, 1);
     }
 
@@ -67,7 +64,7 @@ public final class HeldTillSet {
             return 0;
         }
         int came = 0;
-        while (came < n && bench.size < MOST_JOINTS && jointFromRow(shelves[shelf], (long) i + 3 * came)) {
+        while (came < n && jointFromRow(shelves[shelf], (long) i + 3 * came)) {
             came++;
         }
         return came;
@@ -86,8 +83,7 @@ public final class HeldTillSet {
                 || !bench.mayBe(0, Bench.HELD, held)) {
             return false;
         }
-        bench.add(fits, hands, held);
-        return true;
+        return bench.add(fits, hands, held) >= 0;
     }
 
     public int mend(int number, int what, int v) {
@@ -95,9 +91,9 @@ public final class HeldTillSet {
         if (place < 0 || !bench.mayBe(number, what, v)) {
             return BAD;
         }
-        int old = bench.numbers[place];
+        int old = bench.read(place);
         if (old != v) {
-            bench.numbers[place] = v;
+            bench.write(place, v);
             log.add(place, old, v);
         }
         return old;
@@ -111,7 +107,7 @@ public final class HeldTillSet {
             return deed.work.bits;
         }
         int place = bench.placeOf(number, what);
-        return place < 0 ? BAD : bench.numbers[place];
+        return place < 0 ? BAD : bench.read(place);
     }
 
     public int feed(int letter) {
@@ -472,11 +468,11 @@ public final class HeldTillSet {
     }
 
     public int undo() {
-        return log.takeBack(bench.numbers) ? log.undoable : STATE;
+        return log.takeBack(bench) ? log.undoable : STATE;
     }
 
     public int redo() {
-        return log.doAgain(bench.numbers) ? log.redoable : STATE;
+        return log.doAgain(bench) ? log.redoable : STATE;
     }
 
     // ---- acts, shelves
@@ -562,7 +558,7 @@ public final class HeldTillSet {
         if (held.holds != Shelf.BODY) {
             return OTHER_KIND;
         }
-        int kind = acts.kinds[held.bodyNumber];
+        int kind = acts.kindOf(held.bodyNumber);
         return Acts.isUnder(kind, k) ? kind : OTHER_KIND;
     }
 
@@ -708,7 +704,7 @@ public final class HeldTillSet {
         private static final int[] LEAST = {1, 0, 0, 0, 0, 0, 0, 0, 0, 0, 0};
         private static final int[] GREATEST = {9, 3, 2, 1, 127, 127, MOST_MEN, MOST_CLAMPS, MOST_GLUE, 30, 12};
 
-        final int[] numbers = new int[MOST_JOINTS * EACH + SLIPS - MEN + 1];
+        private final int[] numbers = new int[MOST_JOINTS * EACH + SLIPS - MEN + 1];
         int size;
 
         Bench() {
@@ -731,6 +727,16 @@ public final class HeldTillSet {
             return what != NEEDS && what != SPRUNG || (v >> number & 1) == 0;
         }
 
+        int read(int place) {
+            return place >= 0 && place < numbers.length ? numbers[place] : 0;
+        }
+
+        void write(int place, int v) {
+            if (place >= 0 && place < numbers.length) {
+                numbers[place] = v;
+            }
+        }
+
         int numberOf(int joint, int what) {
             int place = joint * EACH + what;
             return place >= 0 && place < MOST_JOINTS * EACH ? numbers[place] : 0;
@@ -740,8 +746,11 @@ public final class HeldTillSet {
             return what >= MEN && what <= SLIPS ? numbers[MOST_JOINTS * EACH + what - MEN] : 0;
         }
 
-        /** Only while there is room for one more. */
+        /** The number of the new joint, or FULL. */
         int add(int fits, int hands, int held) {
+            if (size >= MOST_JOINTS) {
+                return FULL;
+            }
             int first = size * EACH;
             numbers[first + FITS] = fits;
             numbers[first + HANDS] = hands;
@@ -795,21 +804,21 @@ public final class HeldTillSet {
             redoable = 0;
         }
 
-        boolean takeBack(int[] numbers) {
-            if (undoable == 0) {
+        boolean takeBack(Bench bench) {
+            if (undoable <= 0) {
                 return false;
             }
             undoable--;
             redoable++;
-            numbers[places[undoable]] = olds[undoable];
+            bench.write(places[undoable], olds[undoable]);
             return true;
         }
 
-        boolean doAgain(int[] numbers) {
-            if (redoable == 0) {
+        boolean doAgain(Bench bench) {
+            if (redoable <= 0 || undoable >= KEPT) {
                 return false;
             }
-            numbers[places[undoable]] = news[undoable];
+            bench.write(places[undoable], news[undoable]);
             undoable++;
             redoable--;
             return true;
@@ -989,7 +998,7 @@ public final class HeldTillSet {
                     if (top >= STACK) {
                         return 0;
                     }
-                    stack[top] = word >= LITERAL ? word - LITERAL : named[word - NAME];
+                    stack[top] = valueOf(word);
                     top++;
                 } else if (top < 1) {
                     return 0;
@@ -1010,6 +1019,14 @@ public final class HeldTillSet {
                 }
             }
             return 0;
+        }
+
+        private int valueOf(int word) {
+            if (word >= LITERAL) {
+                return word - LITERAL;
+            }
+            int name = word - NAME;
+            return name >= 0 && name < named.length ? named[name] : 0;
         }
 
         private static int truth(boolean is) {
@@ -1383,7 +1400,7 @@ public final class HeldTillSet {
         }
 
         private boolean isSo(int j) {
-            return due[j] == FREE || due[j] == work.set[work.size - 1];
+            return due[j] == FREE || due[j] == work.setOf(j);
         }
 
         /** An order of all went in. */
@@ -1497,7 +1514,7 @@ public final class HeldTillSet {
             81, 80, 0, 0,
         };
 
-        final int[] kinds = new int[MOST];
+        private final int[] kinds = new int[MOST];
         final int[] ran = new int[TRACE];
         private int self;
         private int own;
@@ -1528,17 +1545,23 @@ public final class HeldTillSet {
             return true;
         }
 
+        /** -1: there is no such body. */
+        int kindOf(int number) {
+            return number >= 0 && number < size ? kinds[number] : -1;
+        }
+
         int keptOfTrace() {
             return Math.min(ranSize, TRACE);
         }
 
         int start(int number, int a, int x) {
             ranSize = 0;
-            if (number < 0 || number >= size || a < 0 || a >= ACTS) {
+            int kind = kindOf(number);
+            if (kind < 0 || a < 0 || a >= ACTS) {
                 return 0;
             }
             self = number;
-            own = kinds[number];
+            own = kind;
             return run(own, a, x, 0);
         }
 
